@@ -31,6 +31,7 @@ public final class PromiseTest {
         startTakesTheLongestFirst();
         startPrefersCheapToLong();
         startTakesTheLongestSecond();
+        startLooksAtTheKindBefore();
         startAtItsEdges();
         beginningCountsWords();
         answersChangeNothing();
@@ -267,18 +268,15 @@ public final class PromiseTest {
             due("forget one of 16", forget(x, "" + gone / 4 + gone % 4), 15);
             for (int k = 0; k < 3; k++) {
                 x.link(k, 3, 10 * (k + 1));
+                x.link(3, k, 99);
             }
             for (int i = 0; i < 16; i++) {
                 String letters = "" + i / 4 + i % 4;
                 due("after forgetting " + gone + ": " + letters, lookUp(x, letters), i == gone ? -1 : i);
-                // The unknown letter behind the word shows the word's kind by its link.
-                typeAll(x, letters + i % 4);
-                if (i != gone && i % 5 != 0) {
-                    int wordInFront = i + 10 * (i % 3 + 1) + 99;
-                    // The word of the last letter twice, behind an unknown letter, is the other way.
-                    int twice = i % 4 * 5;
-                    int wordBehind = twice == gone ? wordInFront : 99 + twice;
-                    due("after forgetting " + gone + ": cost " + letters, x.cost(), Math.min(wordInFront, wordBehind));
+                if (i != gone) {
+                    // The unknown letter behind the word shows the word's kind by its link.
+                    typeAll(x, letters + "0");
+                    due("after forgetting " + gone + ": cost of " + letters, x.cost(), i + 10 * (i % 3 + 1) + 99);
                 }
             }
         }
@@ -588,6 +586,21 @@ public final class PromiseTest {
         dueStarts("longest second: link in the way", x, 0, 1, 3, 5);
         x.link(1, 2, 1);
         dueStarts("longest second: both in the way", x, 0, 1, 2, 3, 5);
+    }
+
+    private static void startLooksAtTheKindBefore() {
+        WordLattice x = new WordLattice(50);
+        learn(x, "0", 1, 0);
+        learn(x, "12", 2, 1);
+        learn(x, "1", 2, 2);
+        learn(x, "2", 1, 2);
+        x.link(0, 1, 5);
+        typeAll(x, "12");
+        dueStarts("kind before: alone", x, 0, 2);
+        typeAll(x, "012");
+        dueStarts("kind before: behind kind 0", x, 0, 1, 2, 3);
+        learn(x, "0", 1, 1);
+        dueStarts("kind before: behind kind 1", x, 0, 1, 3);
     }
 
     private static void startAtItsEdges() {
